@@ -407,7 +407,8 @@ public final class GraphDeck {
      * column is the least.
      */
     private static final class Canon {
-        private static final int HALF = 1024;
+        private static final int SLOT_BITS = 11;
+        private static final int SPREAD = 0x9E3779B1;
         private static final int UNKNOWN = 1 << MOST_VERTICES;
 
         private final Graph graph = new Graph();
@@ -417,15 +418,14 @@ public final class GraphDeck {
         private final int[] lowerTwins = new int[MOST_VERTICES];
         private final int[] best = new int[MOST_VERTICES];
         // Answers ask for the same small cards again and again, so codes are
-        // remembered. The upper half is for the cards with 5 vertices alone.
-        private final int[] knownGraphs = new int[2 * HALF];
-        private final int[] knownCodes = new int[2 * HALF];
+        // remembered, each until another graph comes into its slot.
+        private final int[] knownGraphs = new int[1 << SLOT_BITS];
+        private final int[] knownCodes = new int[1 << SLOT_BITS];
 
         int of(int size, int code) {
             // No graph has 0 vertices, so the name of a graph is never the 0 of an empty slot.
             int name = size << 28 | code;
-            int mixed = code + (1 << 2 * size) + (code >> 10) + (code >> 20) & HALF - 1;
-            int slot = size == 5 ? HALF | code & HALF - 1 : mixed;
+            int slot = name * SPREAD >>> 32 - SLOT_BITS;
             if (knownGraphs[slot] != name) {
                 prepare(size, code);
                 number(this, 0, (1 << graph.size()) - 1, 0L);
@@ -961,8 +961,11 @@ public final class GraphDeck {
         int find(Deck held, int choice, Canon canon) {
             size = 0;
             choose(held, choice);
+            if (chosen.size() == 0) {
+                return 0;
+            }
             int oldVertices = chosen.h() - 1;
-            for (int links = 0; chosen.size() > 0 && links < 1 << oldVertices; links++) {
+            for (int links = 0; links < 1 << oldVertices; links++) {
                 int code = chosen.codeAt(0) << oldVertices | links;
                 candidate.load(chosen.h(), code);
                 full.fill(candidate, canon);
