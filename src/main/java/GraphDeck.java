@@ -439,21 +439,18 @@ public final class GraphDeck {
             graph.load(size, code);
             forgetFrom(0);
             for (int v = 0; v < MOST_VERTICES; v++) {
+                int row = graph.row(v);
                 links[v] = 0L;
                 lowerTwins[v] = 0;
                 for (int u = 0; u < MOST_VERTICES; u++) {
-                    links[v] |= (long) graph.link(v, u) << 8 * u;
-                    if (u < v && areTwins(u, v)) {
+                    links[v] |= (long) (row >> u & 1) << 8 * u;
+                    // Twins have the same neighbours but for each other.
+                    int others = ~(1 << u | 1 << v);
+                    if (u < v && (row & others) == (graph.row(u) & others)) {
                         lowerTwins[v] |= 1 << u;
                     }
                 }
             }
-        }
-
-        // Twins have the same neighbours but for each other.
-        private boolean areTwins(int u, int v) {
-            int others = ~(1 << u | 1 << v);
-            return (graph.row(u) & others) == (graph.row(v) & others);
         }
 
         private void forgetFrom(int level) {

@@ -184,7 +184,7 @@ public final class ModelRuns {
             return random.nextInt((1 << (model.h - 1) * (model.h - 2) / 2) + 1);
         }
         if (name.equals("begin")) {
-            return random.nextInt(7) == 0 ? 1 + random.nextInt(9) : 1 + random.nextInt(7);
+            return random.nextInt(7) == 0 ? random.nextInt(10) : 1 + random.nextInt(7);
         }
         if (name.equals("hold")) {
             return 2 + random.nextInt(6);

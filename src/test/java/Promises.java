@@ -600,6 +600,10 @@ public final class Promises {
         x.undo();
         x.begin(5);
         due("deck(8) with more vertices", x.deck(8), 0);
+        x = cards("15 deck, some cards of a larger deck", 3, 0, 0, 0);
+        due("deck(8)", x.deck(8), 0);
+        x.begin(3);
+        due("deck(8) with 3 vertices", x.deck(8), 1);
         x = start("15 deck, a graph without cards");
         x.begin(1);
         due("deck(8)", x.deck(8), 0);
@@ -741,6 +745,12 @@ public final class Promises {
         due("missing(0)", x.missing(0), 3);
         due("missing(1)", x.missing(1), NONE);
         due("missing(MAX)", x.missing(Integer.MAX_VALUE), NONE);
+        // Only four adjacent vertices and one more have three cards with a triangle and a vertex.
+        x = cards("18 missing, two cards are lost", 5, 11, 11, 11);
+        due("deck(6)", x.deck(6), 1);
+        due("missing(0)", x.missing(0), 11);
+        due("missing(1)", x.missing(1), 63);
+        due("missing(2)", x.missing(2), NONE);
         x = cards("18 missing, no answer", 4, 1, 1, 7, 7);
         due("missing(0)", x.missing(0), NONE);
     }
