@@ -1,12 +1,15 @@
 import java.io.IOException;
 import java.lang.reflect.Constructor;
 import java.lang.reflect.Field;
+import java.lang.reflect.InvocationTargetException;
 import java.lang.reflect.Method;
 import java.lang.reflect.Modifier;
 import java.nio.charset.StandardCharsets;
 import java.nio.file.Files;
 import java.nio.file.Paths;
 import java.util.Arrays;
+import java.util.Comparator;
+import java.util.Random;
 import java.util.TreeSet;
 import java.util.regex.Matcher;
 import java.util.regex.Pattern;
@@ -21,6 +24,9 @@ public final class Language {
         "package", "protected", "volatile", "native", "double", "float", "Object", "System", "Random", "Thread",
         "hashCode", "equals", "toString", "Exact", "MAX_VALUE", "MIN_VALUE"};
 
+    private static final int[] EDGES = {Integer.MIN_VALUE, Integer.MIN_VALUE + 1, -32, -31, -9, -1, 31, 32, 63, 1023, 1 << 28,
+        Integer.MAX_VALUE - 1, Integer.MAX_VALUE};
+
     private static int wrong = 0;
 
     public static void main(String[] args) throws IOException, IllegalAccessException {
@@ -29,6 +35,7 @@ public final class Language {
             classInside(inside);
         }
         String source = new String(Files.readAllBytes(Paths.get("src/main/java/GraphDeck.java")), StandardCharsets.US_ASCII);
+        anyArguments();
         words(source.replaceAll("(?s)/\\*.*?\\*/", "").replaceAll("//[^\\n]*", ""));
         System.out.println(wrong == 0 ? "the language is as due" : wrong + " rules are broken");
         if (wrong != 0) {
@@ -97,6 +104,30 @@ public final class Language {
         for (Method m : c.getDeclaredMethods()) {
             check(m.getParameterCount() <= 7, m + " takes at most seven parameters");
             check(!isPublicName(m.getName()), m + " has a name of its own");
+        }
+    }
+
+    /** Rule 7: no call throws, in any state, also after the 512th one. */
+    private static void anyArguments() throws IllegalAccessException {
+        Random random = new Random(13);
+        Method[] methods = Arrays.stream(GraphDeck.class.getMethods())
+            .filter(m -> m.getDeclaringClass() == GraphDeck.class).sorted(Comparator.comparing(Method::getName)).toArray(Method[]::new);
+        for (int run = 0; run < 20; run++) {
+            GraphDeck x = new GraphDeck();
+            for (int i = 0; i < 3000; i++) {
+                Method method = methods[random.nextInt(methods.length)];
+                Object[] arguments = new Object[method.getParameterCount()];
+                for (int a = 0; a < arguments.length; a++) {
+                    int dice = random.nextInt(12);
+                    arguments[a] = dice == 0 ? random.nextInt() : dice == 1 ? EDGES[random.nextInt(EDGES.length)] : random.nextInt(9);
+                }
+                try {
+                    method.invoke(x, arguments);
+                } catch (InvocationTargetException e) {
+                    check(false, "no throw: " + method.getName() + Arrays.toString(arguments) + " threw " + e.getCause());
+                    return;
+                }
+            }
         }
     }
 

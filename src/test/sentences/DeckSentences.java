@@ -313,7 +313,11 @@ final class DeckSentences {
         run("keepDeck(); deck(6) = 1; missing(0) = NONE; missing(MAX) = NONE; dropCard(3); missing(0) = 0; missing(1) = NONE; "
             + "missing(MAX) = NONE");
         says(18, "or there is not exactly one answer;");
-        run(NO_ANSWER + "missing(0) = NONE; dropCard(0); deck(6) = 0; missing(0) = NONE");
+        run(NO_ANSWER + "missing(0) = NONE; dropCard(3); deck(6) = 1; missing(0) = 1; addCard(7); missing(0) = NONE; dropCard(0); "
+            + "deck(6) = 0; missing(0) = NONE");
+        // What was found before, in the graph or in other cards, does not count.
+        run("told(6) = 1; " + NO_ANSWER + "missing(0) = NONE");
+        run("keepDeck(); dropCard(0); missing(0) = 0; " + NO_ANSWER + "missing(0) = NONE; deck(7) = NONE");
         run("addCard(7); addCard(7); deck(6) = 2; missing(0) = NONE; addCard(7); deck(6) = 1; missing(0) = 7");
         says(18, "BAD if k is negative;");
         run("missing(-1) = BAD; missing(MIN) = BAD; addCard(0); missing(-1) = BAD; keepDeck(); missing(-1) = BAD; missing(-9) = BAD; "

@@ -288,17 +288,28 @@ final class DescriptionSentences {
         // With H = 5 all of them can be counted, with H = 3 only the one with 2 vertices.
         run(Sentences.cards(5, 0, 0, 0, 0, 0) + Sentences.list("counted(%)", 0, 0, 0, 0, 0, 0, 0, 0, 0, -1));
         run(Sentences.cards(3, 0, 0, 0) + Sentences.list("counted(%)", 0, -9, -9, -9, -9, -9, -9, -9, -9, -1));
+        String star = Sentences.graph(8, 7, 0, 7, 1, 7, 2, 7, 3, 7, 4, 7, 5, 7, 6);
         pattern("0 an edge;", Sentences.graph(2, 0, 1), 1, 0, 0, 0, 0, 0, 0, 0, 0);
+        run("begin(8); become(268435455); copies(0) = 28; become(0); copies(0) = 0");
         pattern("1 a path with 3 vertices;", Sentences.graph(3, 0, 1, 1, 2), 2, 1, 0, 0, 0, 0, 0, 0, 0);
+        run(star + "copies(1) = 21; become(0); edge(0, 1, 1); edge(2, 3, 1); copies(1) = 0");
         pattern("2 a triangle;", Sentences.graph(3, 0, 1, 1, 2, 2, 0), 3, 3, 1, 0, 0, 0, 0, 0, 0);
+        run(Sentences.graph(5, 0, 1, 1, 2, 2, 0, 0, 3, 3, 4, 4, 0) + "copies(2) = 2; edge(3, 4, 0); copies(2) = 1");
         pattern("3 a star with 3 leaves;", Sentences.graph(4, 0, 1, 0, 2, 0, 3), 3, 3, 0, 1, 0, 0, 0, 0, 0);
+        run(star + "copies(3) = 35; copies(4) = 0");
         pattern("4 a path with 4 vertices;", Sentences.graph(4, 0, 1, 1, 2, 2, 3), 3, 2, 0, 0, 1, 0, 0, 0, 0);
+        // The ends of the path are different: a triangle has none.
+        run(Sentences.graph(8, 0, 1, 1, 2, 2, 0) + "copies(4) = 0; edge(0, 3, 1); copies(4) = 2; edge(2, 1, 0); copies(4) = 0");
         pattern("5 a cycle with 4 vertices;", Sentences.graph(4, 0, 1, 1, 2, 2, 3, 3, 0), 4, 4, 0, 0, 4, 1, 0, 0, 0);
+        run(Sentences.graph(5, 0, 2, 0, 3, 0, 4, 1, 2, 1, 3, 1, 4) + "copies(5) = 3; edge(1, 4, 0); copies(5) = 1");
         pattern("6 a triangle with one more edge from one of its vertices to a fourth vertex;",
             Sentences.graph(4, 0, 1, 1, 2, 2, 0, 2, 3), 4, 5, 1, 1, 2, 0, 1, 0, 0);
+        run(Sentences.graph(6, 0, 1, 1, 2, 2, 0, 3, 4) + "copies(6) = 0; edge(2, 3, 1); copies(6) = 1; edge(2, 5, 1); copies(6) = 2");
         pattern("7 two triangles with a common edge;",
             Sentences.graph(4, 0, 1, 1, 2, 2, 0, 2, 3, 3, 1), 5, 8, 2, 2, 6, 1, 4, 1, 0);
+        run(Sentences.graph(5, 0, 1, 0, 2, 1, 2, 0, 3, 1, 3, 0, 4, 1, 4) + "copies(7) = 3; edge(0, 1, 0); copies(7) = 0");
         pattern("8 four vertices that are all adjacent.", "become(63); ", 6, 12, 4, 4, 12, 3, 12, 6, 1);
+        run("begin(5); become(1023); copies(8) = 5; edge(0, 1, 0); copies(8) = 2; edge(2, 3, 0); copies(8) = 0");
         says("A copy of a pattern in a graph is a set of edges of the graph that, together with the vertices at their ends, "
             + "is isomorphic to the pattern.");
         // Of four adjacent vertices, three sets of edges are cycles; a vertex without edges is in no copy.
@@ -513,8 +524,6 @@ final class DescriptionSentences {
     private static void examples() {
         List<MatchResult> found = Pattern.compile("\\d\\. [^:]+: (\\w+\\([^:]*?)\\.(?= \\d\\. | The constants)")
             .matcher(Sentences.section(HERE)).results().toList();
-        says("Examples: Each of them begins with a new object; the results are given behind the calls.");
-        Sentences.due("the number of examples", found.size(), 3);
         for (MatchResult example : found) {
             says(example.group());
             run(example.group(1));
@@ -545,7 +554,8 @@ final class DescriptionSentences {
             "Beside it, it holds a deck of cards, of which some can be lost; it computes numbers of the unknown graph by "
                 + "counting in the cards, finds all graphs that have these cards, the cards that are missing, and how many "
                 + "cards are enough.",
-            "CONVENTIONS", "GRAPHS", "CARDS", "PATTERNS", "THE HELD DECK", "CHANGES", "The constants:",
+            "CONVENTIONS", "GRAPHS", "CARDS", "PATTERNS", "THE HELD DECK", "CHANGES",
+            "Examples: Each of them begins with a new object; the results are given behind the calls.", "The constants:",
             "The constructor and the methods follow, a promise each: the signature, then what it does."}) {
             Sentences.tellsOnly(HERE, sentence);
         }

@@ -29,9 +29,11 @@ final class Sentences {
 
     private static final Map<String, String> SECTIONS = readSections();
     private static final Map<String, List<String>> QUOTES = new LinkedHashMap<>();
+    private static final Set<String> TESTED = new LinkedHashSet<>();
     private static final Set<String> WRONG = new LinkedHashSet<>();
     private static final List<String> FAULTS = new ArrayList<>();
     private static String current = "";
+    private static String only = "";
     private static boolean untested = false;
     private static int answers = 0;
 
@@ -71,7 +73,18 @@ final class Sentences {
         endSentence();
         current = name(section, sentence);
         untested = true;
+        TESTED.add(current);
         quote(section, sentence);
+    }
+
+    /** From now on, only the runs of sentences whose names begin so are made. */
+    static void only(String start) {
+        only = start;
+    }
+
+    private static boolean isLeftOut() {
+        untested = false;
+        return !current.startsWith(only);
     }
 
     private static void endSentence() {
@@ -125,7 +138,9 @@ final class Sentences {
     // ---- runs
 
     static void run(String calls) {
-        untested = false;
+        if (isLeftOut()) {
+            return;
+        }
         GraphDeck x = new GraphDeck();
         List<String> made = new ArrayList<>();
         for (String text : calls.split(";")) {
@@ -149,6 +164,9 @@ final class Sentences {
 
     /** The calls on a new object; then one that returns an error code must leave all as if it had not been made. */
     static void unchanged(String calls, String wrongCall, String error) {
+        if (isLeftOut()) {
+            return;
+        }
         run(calls + "; " + wrongCall + " = " + error);
         String without = everything(calls);
         String with = everything(calls + "; " + wrongCall);
@@ -288,7 +306,9 @@ final class Sentences {
     // ---- the end
 
     static void due(String what, int got, int want) {
-        untested = false;
+        if (isLeftOut()) {
+            return;
+        }
         answers++;
         if (got != want) {
             fault(what + " is " + got + ", due is " + want);
@@ -298,6 +318,11 @@ final class Sentences {
     static void fault(String text) {
         WRONG.add(current);
         FAULTS.add(current + ": " + text);
+    }
+
+    /** The names of the sentences that have a test. */
+    static Set<String> tested() {
+        return TESTED;
     }
 
     /** The names of the sentences that do not hold. */
