@@ -65,9 +65,11 @@ public final class ModelRuns {
     }
 
     private static void everySmallDeck() {
-        for (int h = 3; h <= 4; h++) {
-            addCards(h, new int[0]);
+        for (int h = 3; h <= 5; h++) {
+            addCards(h, h, new int[0]);
         }
+        // All with six vertices are almost four millions, so only those with few cards.
+        addCards(6, 2, new int[0]);
         Random random = new Random(5);
         for (int round = 0; round < 300; round++) {
             int h = 5 + round % 2;
@@ -79,16 +81,16 @@ public final class ModelRuns {
         }
     }
 
-    private static void addCards(int h, int[] codes) {
+    private static void addCards(int h, int most, int[] codes) {
         holdAndAsk(h, codes);
-        if (codes.length == h) {
+        if (codes.length == most) {
             return;
         }
         for (int code : Model.canonicalCodes(h - 1)) {
             if (codes.length == 0 || codes[codes.length - 1] <= code) {
                 int[] more = Arrays.copyOf(codes, codes.length + 1);
                 more[codes.length] = code;
-                addCards(h, more);
+                addCards(h, most, more);
             }
         }
     }
